@@ -5,6 +5,8 @@ public final class FieldTest {
             writtenFields(order == 1);
             kindsWithinFourBytes(order == 1);
             kindsElsewhere(order == 1);
+            atTheEnds(order == 1);
+            behindTheEntries(order == 1);
             broken(order == 1);
             firstOfEqualTags(order == 1);
         }
@@ -82,6 +84,28 @@ public final class FieldTest {
         int mark = greatest ? 77 : 73;
         is("values in the header", f.x, 256, mark, mark, greatest ? 0 : 42, greatest ? 42 : 0,
                 f.x.byteAt(4), f.x.byteAt(5), f.x.byteAt(6), f.x.byteAt(7));
+    }
+
+    /** The first and the last bytes of the file as SHORTs and LONGs; the last ones break the walk off behind. */
+    private static void atTheEnds(boolean greatest) {
+        Forge f = new Forge(greatest);
+        f.kind(0, 3).count(0, 3).numberLong(0, 0);
+        is("SHORTs from place 0 on", f.x, 256, greatest ? 77 * 257 : 73 * 257, 42, greatest ? 0 : 264);
+        f.poke(Forge.LENGTH - 4, 1).poke(Forge.LENGTH - 3, 2).poke(Forge.LENGTH - 2, 3).poke(Forge.LENGTH - 1, 5);
+        f.numberLong(0, Forge.LENGTH - 6);
+        is("SHORTs up to the end", f.x, 256, 0, greatest ? 258 : 513, greatest ? 773 : 1283);
+        f.kind(0, 4).count(0, 2).numberLong(0, Forge.LENGTH - 8);
+        is("LONGs up to the end", f.x, 256, greatest ? 0x10000 : 1, greatest ? 0x01020305 : 0x05030201);
+    }
+
+    /** The LONG behind the entries begins with a SHORT that is no tag. */
+    private static void behindTheEntries(boolean greatest) {
+        Forge f = new Forge(greatest);
+        f.putShort(Forge.entry(8), 999);
+        none("no entry behind the last one", f.x, 0, 999);
+        f.putShort(Forge.DIRECTORY, 7);
+        none("317 is behind seven entries", f.x, 0, 317);
+        Check.due("279 is among them", f.x.fieldCount(0, 279), 1);
     }
 
     private static void broken(boolean greatest) {

@@ -1,6 +1,9 @@
+import java.util.Arrays;
+
 /**
  * A file with one page whose bytes a test can set at will: a strip area of 256 bytes at place 8 and
- * a directory of eight entries at place 264.
+ * a directory of eight entries at place 264. Pages are loaded into new objects each time, for nothing
+ * is promised of an object behind its 512th call.
  */
 final class Forge {
     static final int STRIP = 8;
@@ -15,14 +18,34 @@ final class Forge {
     static final int LENGTHS = 6;
     static final int PREDICTOR = 7;
 
-    final TaggedRaster x = new TaggedRaster();
+    final TaggedRaster x;
     private final boolean greatest;
+    private final int[] written;
+    private final int[] wanted;
 
     Forge(boolean greatest) {
         this.greatest = greatest;
+        x = page(greatest);
+        written = Check.file(page(greatest));
+        wanted = written.clone();
+    }
+
+    private static TaggedRaster page(boolean greatest) {
+        TaggedRaster x = new TaggedRaster();
         x.clear(greatest);
         Check.due("begin(16, 16, 8)", x.begin(16, 16, 8), true);
         Check.due("write(1, 16, 1)", x.write(1, 16, 1), LENGTH - 8);
+        return x;
+    }
+
+    private TaggedRaster again() {
+        TaggedRaster fresh = page(greatest);
+        for (int place = 0; place < LENGTH; place++) {
+            if (wanted[place] != written[place]) {
+                Check.due("poke(" + place + ", " + wanted[place] + ")", fresh.poke(place, wanted[place]), true);
+            }
+        }
+        return fresh;
     }
 
     /** The page shows w columns, h rows and depth d, in one strip, by some compression. */
@@ -41,6 +64,11 @@ final class Forge {
 
     static int entry(int k) {
         return DIRECTORY + 2 + 12 * k;
+    }
+
+    /** A whole entry with one SHORT. */
+    Forge shortEntry(int k, int tag, int value) {
+        return tag(k, tag).kind(k, 3).count(k, 1).numberLong(k, 0).number(k, value);
     }
 
     Forge tag(int k, int tag) {
@@ -78,24 +106,30 @@ final class Forge {
 
     Forge poke(int place, int b) {
         Check.due("poke(" + place + ", " + b + ")", x.poke(place, b), true);
+        wanted[place] = b;
         return this;
     }
 
     /** The page is read, and the picture is the one due. */
     void shows(String what, int shape, int... samples) {
-        x.begin(1, 1, 1);
-        Check.due(what + ": load(0)", x.load(0), 0);
-        Check.due(what + ": shape()", x.shape(), shape);
-        Check.due(what + ": samples", Check.samples(x), samples);
+        TaggedRaster fresh = again();
+        fresh.begin(1, 1, 1);
+        Check.due(what + ": load(0)", fresh.load(0), 0);
+        Check.due(what + ": shape()", fresh.shape(), shape);
+        Check.due(what + ": samples", Check.samples(fresh), samples);
     }
 
     /** The page is refused, and neither picture nor file nor labels change. */
     void refuses(String what, int answer) {
-        Check.picture(x, 2, 2, 4, 9, 8, 7, 15);
-        int[] before = Check.file(x);
-        Check.due(what + ": load(0)", x.load(0), answer);
-        Check.due(what + ": shape() stays", x.shape(), 4002002);
-        Check.due(what + ": samples stay", Check.samples(x), 9, 8, 7, 15);
-        Check.due(what + ": file stays", Check.file(x), before);
+        TaggedRaster fresh = again();
+        Check.picture(fresh, 2, 2, 4, 9, 8, 7, 15);
+        Check.text(fresh, 40000, "a");
+        Check.due(what + ": load(0)", fresh.load(0), answer);
+        Check.due(what + ": shape() stays", fresh.shape(), 4002002);
+        Check.due(what + ": samples stay", Check.samples(fresh), 9, 8, 7, 15);
+        Check.due(what + ": labels stay", fresh.unlabel(), 1);
+        Check.due(what + ": front of the file stays", Check.file(fresh, 0, 40), Arrays.copyOf(wanted, 40));
+        Check.due(what + ": directory stays", Check.file(fresh, DIRECTORY, LENGTH),
+                Arrays.copyOfRange(wanted, DIRECTORY, LENGTH));
     }
 }

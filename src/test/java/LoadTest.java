@@ -23,6 +23,7 @@ public final class LoadTest {
         plain();
         packets();
         nibbleCodes();
+        manyNibbles();
         longNibbleCodes();
         unpacking();
         labelsStay();
@@ -30,19 +31,19 @@ public final class LoadTest {
     }
 
     private static void whatWasWritten() {
-        TaggedRaster x = new TaggedRaster();
         for (int d = 1; d <= 8; d *= 2) {
             for (int compression : new int[] {1, 5, 32773}) {
                 for (int w = 1; w <= 16; w += 3) {
                     for (int h = 1; h <= 11; h += 2) {
-                        thereAndBack(x, w, h, d, compression);
+                        thereAndBack(w, h, d, compression);
                     }
                 }
             }
         }
     }
 
-    private static void thereAndBack(TaggedRaster x, int w, int h, int d, int compression) {
+    private static void thereAndBack(int w, int h, int d, int compression) {
+        TaggedRaster x = new TaggedRaster();
         x.clear(w % 2 == 0);
         x.begin(w, h, d);
         x.wash(5 * w + 3, 7 * d + 2, h);
@@ -85,6 +86,11 @@ public final class LoadTest {
         small(greatest).tag(7, 280).shows("other tags may stand there", 8002002, 1, 2, 3, 4);
         small(greatest).tag(7, 65535).kind(7, 99).count(7, 0).shows("broken fields of no matter", 8002002, 1, 2, 3, 4);
         small(greatest).tag(7, 0).refuses("tag 0 at the end", BAD_FIELDS);
+        Forge f = new Forge(greatest).strip(5);
+        f.shortEntry(0, 0, 0).shortEntry(1, 256, 1).shortEntry(2, 257, 1).shortEntry(3, 258, 8).shortEntry(4, 259, 1);
+        f.shortEntry(5, 273, 8).shortEntry(6, 278, 1).shortEntry(7, 279, 1);
+        f.shows("tag 0 in front", 8001001, 5);
+        f.tag(0, 256).refuses("the first two tags equal", BAD_FIELDS);
         small(greatest).tag(7, 257).refuses("a field twice", BAD_FIELDS);
     }
 
@@ -153,6 +159,8 @@ public final class LoadTest {
         small(greatest).kind(Forge.ROWS_A_STRIP, 4).numberLong(Forge.ROWS_A_STRIP, 0xffffffffL)
                 .shows("the most rows a strip", 8002002, 1, 2, 3, 4);
         small(greatest).number(Forge.ROWS_A_STRIP, 1).refuses("one row a strip is two strips", BAD_FIELDS);
+        new Forge(greatest).shape(2, 1, 8, 1).strip(1, 2).number(Forge.ROWS_A_STRIP, 0)
+                .refuses("no rows a strip of one row", BAD_FIELDS);
         small(greatest).number(Forge.PREDICTOR, 2).shows("predictor 2", 8002002, 1, 3, 3, 7);
     }
 
@@ -181,9 +189,6 @@ public final class LoadTest {
 
     private static void stripsInTheFile(boolean greatest) {
         Forge f = small(greatest);
-        for (int k = 0; k < 4; k++) {
-            f.poke(Forge.LENGTH - 4 + k, k == 3 ? 0 : 0);
-        }
         f.numberLong(Forge.PLACES, Forge.LENGTH - 4).shows("the last four bytes", 8002002, 0, 0, 0, 0);
         f.numberLong(Forge.PLACES, Forge.LENGTH - 3).refuses("one byte outside", BAD_STRIP);
         for (long place : new long[] {366, 900, 0x7fffffffL, 0x80000000L, 0xfffffffcL, 0xffffffffL}) {
@@ -260,6 +265,11 @@ public final class LoadTest {
         bytes[129] = 129;
         bytes[130] = 4;
         f.strip(bytes).shows("a packet of 128", 8016016, due);
+        new Forge(true).shape(16, 16, 8, 32773).strip(129, 3, 129, 4, 129, 5).refuses("three runs of 128", BAD_STRIP);
+        new Forge(true).shape(16, 16, 8, 32773).strip(129, 3, 129, 4, 0, 5).refuses("257 bytes", BAD_STRIP);
+        new Forge(true).shape(16, 16, 8, 32773).strip(129, 3, 130, 4).refuses("255 bytes", BAD_STRIP);
+        f = new Forge(true).shape(2, 3, 8, 32773).strip(253, 7, 1, 8, 9).numberLong(Forge.LENGTHS, 4);
+        f.refuses("what follows the strip is not read", BAD_STRIP);
     }
 
     private static void coded(String what, boolean good, int... bytes) {
@@ -282,9 +292,9 @@ public final class LoadTest {
         coded("without CLEAR", true, Codes.bytes(1, 1, 1, 1, 1, 2, 17));
         coded("with many CLEARs", true, Codes.bytes(16, 16, 1, 16, 1, 1, 16, 16, 1, 1, 2, 16, 17));
         coded("a code that is just being made", true, Codes.bytes(16, 1, 18, 18, 2, 17));
-        coded("two codes just being made", false, Codes.bytes(16, 1, 18, 19, 2, 17));
+        coded("a nibble too many by codes just being made", false, Codes.bytes(16, 1, 18, 19, 2, 17));
         coded("a code of the table", true, Codes.bytes(16, 1, 1, 1, 18, 2, 17));
-        coded("the code just being made, later", true, Codes.bytes(16, 1, 1, 1, 1, 1, 2, 17));
+        coded("a code just being made, later", true, Codes.bytes(16, 1, 1, 1, 20, 2, 17));
         coded("a code one too high", false, Codes.bytes(16, 1, 19, 1, 1, 2, 17));
         coded("a table code first", false, Codes.bytes(16, 18, 1, 1, 2, 17));
         coded("a table code first without CLEAR", false, Codes.bytes(18, 1, 1, 1, 2, 17));
@@ -307,6 +317,39 @@ public final class LoadTest {
         coded("bits that follow END", true, bytes);
         bytes = Codes.bytes(16, 1, 18, 18, 2, 17);
         coded("END's bits are not all there", false, Arrays.copyOf(bytes, 3));
+        new Forge(false).shape(3, 1, 8, 5).strip(bytes).numberLong(Forge.LENGTHS, 3)
+                .refuses("END's bits follow the strip", BAD_STRIP);
+        new Forge(false).shape(3, 1, 8, 5).strip(with(bytes, 0)).numberLong(Forge.LENGTHS, 4)
+                .shows("END's bits are just there", 8003001, 0x11, 0x11, 0x12);
+        Forge f = new Forge(false).shape(1, 2, 8, 5).number(Forge.ROWS_A_STRIP, 1).strip(Codes.bytes(3, 4, 17));
+        f.kind(Forge.PLACES, 3).count(Forge.PLACES, 2).putShort(Forge.entry(Forge.PLACES) + 8, 8);
+        f.putShort(Forge.entry(Forge.PLACES) + 10, 20);
+        f.kind(Forge.LENGTHS, 3).count(Forge.LENGTHS, 2).putShort(Forge.entry(Forge.LENGTHS) + 8, 2);
+        f.putShort(Forge.entry(Forge.LENGTHS) + 10, 2);
+        bytes = Codes.bytes(5, 6, 17);
+        f.poke(20, bytes[0]).poke(21, bytes[1]).shows("each strip without CLEAR", 8001002, 0x34, 0x56);
+        bytes = Codes.bytes(18, 6, 17);
+        f.poke(20, bytes[0]).poke(21, bytes[1]).refuses("a code of the strip before", BAD_STRIP - 1);
+    }
+
+    /** Rows of 1, 2, .. and 31 nibbles 0 make 496; the greatest picture takes 16 more, and not 17. */
+    private static void manyNibbles() {
+        Forge f = new Forge(false).shape(16, 16, 8, 5);
+        f.strip(growing(15, 17)).shows("512 nibbles", 8016016, new int[256]);
+        f.strip(growing(14, 17)).refuses("511 nibbles", BAD_STRIP);
+        f.strip(growing(16, 17)).refuses("513 nibbles", BAD_STRIP);
+        f.strip(growing(31, 17)).refuses("528 nibbles", BAD_STRIP);
+        f.strip(growing(15, 48)).refuses("512 nibbles and a row more", BAD_STRIP);
+    }
+
+    private static int[] growing(int beforeLast, int last) {
+        int[] codes = new int[33];
+        for (int k = 1; k <= 30; k++) {
+            codes[k] = 17 + k;
+        }
+        codes[31] = 17 + beforeLast;
+        codes[32] = last;
+        return Codes.bytes(codes);
     }
 
     /** Samples of many nibbles by single codes: widths, a table that is full, codes up to 126. */

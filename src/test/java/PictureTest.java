@@ -15,10 +15,9 @@ public final class PictureTest {
     }
 
     private static void beginning() {
-        TaggedRaster x = new TaggedRaster();
-        Check.text(x, 40000, "x");
         for (int d = 1; d <= 8; d *= 2) {
             for (int w = 1; w <= 16; w++) {
+                TaggedRaster x = new TaggedRaster();
                 for (int h = 1; h <= 16; h++) {
                     Check.due("begin", x.begin(w, h, d), true);
                     Check.due("shape", x.shape(), 1000000 * d + 1000 * w + h);
@@ -26,6 +25,10 @@ public final class PictureTest {
                 }
             }
         }
+        TaggedRaster x = new TaggedRaster();
+        Check.text(x, 40000, "x");
+        x.begin(16, 16, 8);
+        x.fill(0, 0, 16, 16, 255);
         Check.due("begin(16, 16, 8)", x.begin(16, 16, 8), true);
         Check.due("all samples 0", Check.samples(x), new int[256]);
         Check.due("the file stays", Check.file(x), 73, 73, 42, 0, 0, 0, 0, 0);
@@ -101,10 +104,10 @@ public final class PictureTest {
     /** Sums far outside int keep their remainder. */
     private static void washingExactly() {
         int[] numbers = {0, 1, -1, 7, 255, 256, -256, 1000003, LEAST, MOST, LEAST + 1, MOST - 1};
-        TaggedRaster x = new TaggedRaster();
         for (int a : numbers) {
             for (int b : numbers) {
                 for (int c : numbers) {
+                    TaggedRaster x = new TaggedRaster();
                     x.begin(16, 16, 8);
                     x.fill(0, 0, 16, 16, 200);
                     x.wash(a, b, c);

@@ -52,7 +52,9 @@ public final class WalkTest {
             f.putLong(4, place);
             is("the first place is " + place, f.x, 0, false);
         }
-        f.putLong(4, 264);
+        f.putLong(4, 21).putShort(21, 1);
+        is("a directory at an odd place", f.x, 0, false);
+        f.putLong(4, 264).putShort(21, 0);
         is("the first place is 264", f.x, 1, true);
         f.putShort(264, 0);
         is("no entries", f.x, 0, false);

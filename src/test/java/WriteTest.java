@@ -11,6 +11,7 @@ public final class WriteTest {
         packing();
         packets();
         nibbleCodes();
+        sixteenRowsOfOneNibble();
         longNibbleCodes();
         wrongArguments();
         unsound();
@@ -152,6 +153,10 @@ public final class WriteTest {
         Check.due("run behind run", strip(x, 32773, 1, 1), 254, 3, 253, 4);
         Check.picture(x, 7, 1, 8, 3, 3, 3, 4, 4, 5, 5);
         Check.due("pairs at the end", strip(x, 32773, 1, 1), 254, 3, 3, 4, 4, 5, 5);
+        Check.picture(x, 5, 1, 8, 6, 5, 6, 5, 6);
+        Check.due("no two neighbours equal", strip(x, 32773, 1, 1), 4, 6, 5, 6, 5, 6);
+        Check.picture(x, 5, 1, 8, 6, 6, 5, 5, 6);
+        Check.due("pairs only", strip(x, 32773, 1, 1), 4, 6, 6, 5, 5, 6);
         Check.picture(x, 2, 2, 8, 9, 9, 9, 9);
         Check.due("each row for itself", strip(x, 32773, 2, 1), 1, 9, 9, 1, 9, 9);
         x.begin(16, 1, 8);
@@ -179,6 +184,20 @@ public final class WriteTest {
         Check.due("strips are", strip(x, 5, 1, 1), Codes.bytes(16, 0, 7, 17));
     }
 
+    /** A nibble with all sixteen behind it, each pair looked for again. */
+    private static void sixteenRowsOfOneNibble() {
+        TaggedRaster x = new TaggedRaster();
+        x.begin(16, 3, 8);
+        x.wash(1, 0, 1);
+        x.fill(15, 0, 1, 3, 0);
+        List<Integer> nibbles = new ArrayList<>();
+        for (int k = 0; k < 48; k++) {
+            nibbles.add(0);
+            nibbles.add((k + 1) % 16);
+        }
+        Check.due("sixteen rows of one nibble", strip(x, 5, 3, 1), Codes.bytes(Codes.of(nibbles)));
+    }
+
     /** Widths change behind code numbers 13 and 45, and CLEAR comes behind number 109 only if nibbles remain. */
     private static void longNibbleCodes() {
         int[] lengths = {12, 13, 14, 15, 44, 45, 46, 47, 108, 109, 110, 111, 122, 123, 217, 218, 219, 220, 400, 511, 512};
@@ -186,18 +205,22 @@ public final class WriteTest {
             int size = Math.min((n + 1) / 2, 256);
             int w = size <= 16 ? size : 16;
             int h = (size + w - 1) / w;
-            TaggedRaster x = new TaggedRaster();
-            x.begin(w, h, 8);
-            x.wash(37, 101, 5);
-            x.fill(0, 0, w, 1, 0x35);
-            x.wash(n, 7 * n, 0);
             List<Integer> nibbles = new ArrayList<>();
-            for (int sample : Check.samples(x)) {
+            for (int sample : Check.samples(mixed(w, h, n))) {
                 nibbles.add(sample / 16);
                 nibbles.add(sample % 16);
             }
-            Check.due(n + " nibbles", strip(x, 5, h, 1), Codes.bytes(Codes.of(nibbles)));
+            Check.due(n + " nibbles", strip(mixed(w, h, n), 5, h, 1), Codes.bytes(Codes.of(nibbles)));
         }
+    }
+
+    private static TaggedRaster mixed(int w, int h, int n) {
+        TaggedRaster x = new TaggedRaster();
+        x.begin(w, h, 8);
+        x.wash(37, 101, 5);
+        x.fill(0, 0, w, 1, 0x35);
+        x.wash(n, 7 * n, 0);
+        return x;
     }
 
     private static void wrongArguments() {
@@ -218,17 +241,17 @@ public final class WriteTest {
     }
 
     private static void unsound() {
-        TaggedRaster x = new TaggedRaster();
-        x.write(1, 1, 1);
         for (int place : new int[] {0, 1, 2, 4}) {
+            TaggedRaster x = new TaggedRaster();
+            x.write(1, 1, 1);
             int before = x.byteAt(place);
             x.poke(place, before + 1);
             int[] file = Check.file(x);
             Check.due("write with byte " + place + " changed", x.write(1, 1, 1), TaggedRaster.UNSOUND);
             Check.due("the file stays", Check.file(x), file);
             x.poke(place, before);
+            Check.due("write when it is sound again", x.write(1, 1, 1), 104);
         }
-        Check.due("write when it is sound again", x.write(1, 1, 1), 104);
     }
 
     /** Eight small directories, forged, leave much room: the number of pages alone refuses. */
@@ -240,10 +263,11 @@ public final class WriteTest {
         }
         f.putLong(4, 8);
         f.x.begin(1, 1, 1);
-        int[] before = Check.file(f.x);
+        int[] before = Check.file(f.x, 0, 154);
         Check.due("eight pages", f.x.pages(), 8);
         Check.due("a ninth page", f.x.write(1, 1, 1), TaggedRaster.FULL);
-        Check.due("the file stays", Check.file(f.x), before);
+        Check.due("the directories stay", Check.file(f.x, 0, 154), before);
+        Check.due("the length stays", f.x.length(), Forge.LENGTH);
         f.putLong(8 + 18 * 6 + 14, 0);
         Check.due("seven pages", f.x.pages(), 7);
         Check.due("an eighth page", f.x.write(1, 1, 1), 104);
@@ -262,9 +286,12 @@ public final class WriteTest {
         x.begin(8, 7, 8);
         x.wash(1, 3, 9);
         Check.text(x, 40000, "abcdef");
-        int[] before = Check.file(x);
+        int[] header = Check.file(x, 0, 8);
+        int[] directory = Check.file(x, 622, 724);
         Check.due("902 bytes would be too many", x.write(1, 7, 1), TaggedRaster.FULL);
-        Check.due("the file stays", Check.file(x), before);
+        Check.due("the header stays", Check.file(x, 0, 8), header);
+        Check.due("the last directory stays", Check.file(x, 622, 724), directory);
+        Check.due("the length stays", x.length(), 724);
         Check.due("and stays sound", x.sound(), true);
         Check.due("with its pages", x.pages(), 2);
         Check.due("the labels stay", x.unlabel(), 1);
