@@ -328,7 +328,7 @@ public final class LoadTest {
         f.putShort(Forge.entry(Forge.LENGTHS) + 10, 2);
         bytes = Codes.bytes(5, 6, 17);
         f.poke(20, bytes[0]).poke(21, bytes[1]).shows("each strip without CLEAR", 8001002, 0x34, 0x56);
-        bytes = Codes.bytes(18, 6, 17);
+        bytes = Codes.bytes(18, 17);
         f.poke(20, bytes[0]).poke(21, bytes[1]).refuses("a code of the strip before", BAD_STRIP - 1);
     }
 

@@ -12,6 +12,7 @@ public final class WriteTest {
         packets();
         nibbleCodes();
         sixteenRowsOfOneNibble();
+        numbersOfCodes();
         longNibbleCodes();
         wrongArguments();
         unsound();
@@ -184,33 +185,75 @@ public final class WriteTest {
         Check.due("strips are", strip(x, 5, 1, 1), Codes.bytes(16, 0, 7, 17));
     }
 
-    /** A nibble with all sixteen behind it, each pair looked for again. */
+    /** The oldest of the sixteen rows that begin with one nibble is found again. */
     private static void sixteenRowsOfOneNibble() {
         TaggedRaster x = new TaggedRaster();
-        x.begin(16, 3, 8);
-        x.wash(1, 0, 1);
-        x.fill(15, 0, 1, 3, 0);
-        List<Integer> nibbles = new ArrayList<>();
-        for (int k = 0; k < 48; k++) {
-            nibbles.add(0);
-            nibbles.add((k + 1) % 16);
-        }
-        Check.due("sixteen rows of one nibble", strip(x, 5, 3, 1), Codes.bytes(Codes.of(nibbles)));
+        Check.picture(x, 9, 2, 8, 1, 2, 3, 4, 5, 6, 7, 8, 9, 10, 11, 12, 13, 14, 15, 0, 0x15, 0x26);
+        Check.due("sixteen rows of one nibble", strip(x, 5, 2, 1), Codes.bytes(16, 0, 1, 0, 2, 0, 3, 0, 4, 0, 5, 0, 6, 0, 7,
+                0, 8, 0, 9, 0, 10, 0, 11, 0, 12, 0, 13, 0, 14, 0, 15, 0, 18, 5, 2, 6, 17));
     }
 
-    /** Widths change behind code numbers 13 and 45, and CLEAR comes behind number 109 only if nibbles remain. */
+    /** As many codes as fill a width, or come to the last code number, and one more or fewer. */
+    private static void numbersOfCodes() {
+        for (int n : new int[] {2, 12, 13, 14, 44, 45, 46, 108, 109, 110, 111, 217, 218, 219}) {
+            int[] samples = samplesOfCodes(n);
+            Check.due("samples of " + n + " codes are known", samples.length > 0, true);
+            int w = columnsFor(samples.length);
+            TaggedRaster x = new TaggedRaster();
+            Check.picture(x, w, samples.length / w, 8, samples);
+            Check.due(n + " codes", strip(x, 5, samples.length / w, 1), Codes.bytes(Codes.of(nibbles(samples))));
+        }
+    }
+
+    /** Tries samples until they take n codes beside CLEAR and END. */
+    private static int[] samplesOfCodes(int n) {
+        long state = n;
+        for (int tries = 0; tries < 20000; tries++) {
+            state = state * 6364136223846793005L + 1442695040888963407L;
+            int size = 1 + (int) ((state >>> 33) % Math.min(256, n));
+            int[] samples = new int[columnsFor(size) == 0 ? 0 : size];
+            for (int k = 0; k < samples.length; k++) {
+                state = state * 6364136223846793005L + 1442695040888963407L;
+                samples[k] = (int) (state >>> 40) & 255;
+            }
+            int codes = 0;
+            for (int code : Codes.of(nibbles(samples))) {
+                codes += code == 16 || code == 17 ? 0 : 1;
+            }
+            if (codes == n) {
+                return samples;
+            }
+        }
+        return new int[0];
+    }
+
+    private static int columnsFor(int size) {
+        for (int w = 16; w >= 1; w--) {
+            if (size % w == 0 && size / w <= 16) {
+                return w;
+            }
+        }
+        return 0;
+    }
+
+    private static List<Integer> nibbles(int[] bytes) {
+        List<Integer> nibbles = new ArrayList<>();
+        for (int b : bytes) {
+            nibbles.add(b / 16);
+            nibbles.add(b % 16);
+        }
+        return nibbles;
+    }
+
+    /** Nibbles of all numbers, some rows of them alike. */
     private static void longNibbleCodes() {
         int[] lengths = {12, 13, 14, 15, 44, 45, 46, 47, 108, 109, 110, 111, 122, 123, 217, 218, 219, 220, 400, 511, 512};
         for (int n : lengths) {
             int size = Math.min((n + 1) / 2, 256);
             int w = size <= 16 ? size : 16;
             int h = (size + w - 1) / w;
-            List<Integer> nibbles = new ArrayList<>();
-            for (int sample : Check.samples(mixed(w, h, n))) {
-                nibbles.add(sample / 16);
-                nibbles.add(sample % 16);
-            }
-            Check.due(n + " nibbles", strip(mixed(w, h, n), 5, h, 1), Codes.bytes(Codes.of(nibbles)));
+            int[] samples = Check.samples(mixed(w, h, n));
+            Check.due(n + " nibbles", strip(mixed(w, h, n), 5, h, 1), Codes.bytes(Codes.of(nibbles(samples))));
         }
     }
 
