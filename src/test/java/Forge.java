@@ -1,5 +1,3 @@
-import java.util.Arrays;
-
 /**
  * A file with one page whose bytes a test can set at will: a strip area of 256 bytes at place 8 and
  * a directory of eight entries at place 264. Pages are loaded into new objects each time, for nothing
@@ -32,20 +30,29 @@ final class Forge {
 
     private static TaggedRaster page(boolean greatest) {
         TaggedRaster x = new TaggedRaster();
-        x.clear(greatest);
-        Check.due("begin(16, 16, 8)", x.begin(16, 16, 8), true);
-        Check.due("write(1, 16, 1)", x.write(1, 16, 1), LENGTH - 8);
+        write(x, greatest);
         return x;
     }
 
-    private TaggedRaster again() {
-        TaggedRaster fresh = page(greatest);
+    private static void write(TaggedRaster x, boolean greatest) {
+        x.clear(greatest);
+        Check.due("begin(16, 16, 8)", x.begin(16, 16, 8), true);
+        Check.due("write(1, 16, 1)", x.write(1, 16, 1), LENGTH - 8);
+    }
+
+    /** The file as it is now, with a small picture and a label beside it. */
+    Run run() {
+        int[] now = wanted.clone();
+        return Run.start().then(x -> make(x, now)).picture(2, 2, 4, 9, 8, 7, 15).text(40000, "a");
+    }
+
+    private void make(TaggedRaster x, int[] bytes) {
+        write(x, greatest);
         for (int place = 0; place < LENGTH; place++) {
-            if (wanted[place] != written[place]) {
-                Check.due("poke(" + place + ", " + wanted[place] + ")", fresh.poke(place, wanted[place]), true);
+            if (bytes[place] != written[place]) {
+                Check.due("poke(" + place + ", " + bytes[place] + ")", x.poke(place, bytes[place]), true);
             }
         }
-        return fresh;
     }
 
     /** The page shows w columns, h rows and depth d, in one strip, by some compression. */
@@ -110,26 +117,17 @@ final class Forge {
         return this;
     }
 
-    /** The page is read, and the picture is the one due. */
+    /** The page is read, the picture is the one due, and neither file nor labels change. */
     void shows(String what, int shape, int... samples) {
-        TaggedRaster fresh = again();
-        fresh.begin(1, 1, 1);
-        Check.due(what + ": load(0)", fresh.load(0), 0);
-        Check.due(what + ": shape()", fresh.shape(), shape);
-        Check.due(what + ": samples", Check.samples(fresh), samples);
+        Run after = run().takes(what + ": load(0)", x -> x.load(0), 0);
+        Check.due(what + ": shape()", after.object().shape(), shape);
+        Check.due(what + ": samples", after.samples(), samples);
+        Check.due(what + ": the file stays", after.file(), wanted);
+        after.labelsAs(what, run());
     }
 
     /** The page is refused, and neither picture nor file nor labels change. */
     void refuses(String what, int answer) {
-        TaggedRaster fresh = again();
-        Check.picture(fresh, 2, 2, 4, 9, 8, 7, 15);
-        Check.text(fresh, 40000, "a");
-        Check.due(what + ": load(0)", fresh.load(0), answer);
-        Check.due(what + ": shape() stays", fresh.shape(), 4002002);
-        Check.due(what + ": samples stay", Check.samples(fresh), 9, 8, 7, 15);
-        Check.due(what + ": labels stay", fresh.unlabel(), 1);
-        Check.due(what + ": front of the file stays", Check.file(fresh, 0, 40), Arrays.copyOf(wanted, 40));
-        Check.due(what + ": directory stays", Check.file(fresh, DIRECTORY, LENGTH),
-                Arrays.copyOfRange(wanted, DIRECTORY, LENGTH));
+        run().refuses(what + ": load(0)", x -> x.load(0), answer);
     }
 }
