@@ -21,6 +21,7 @@ public final class WriteEdgesTest {
         nineHundredBytesOfAnyPage();
         nineHundredBytesByCompression();
         afterARefusedPage();
+        allPartsInTheirOrder();
         evenPlaces();
         oneStripOrTwo();
         textsOfFourBytesOrFive();
@@ -271,6 +272,55 @@ public final class WriteEdgesTest {
                 late.takes("and it is read", x -> x.load(2), 0).pictureAs("and it is read", two.washed(5, 5, 4));
             }
         }
+    }
+
+    /** "Appended are, in this order": strips, places, lengths, labels, directory. */
+    private static void allPartsInTheirOrder() {
+        int[] least = {73, 73, 42, 0, 46, 0, 0, 0,
+            1, 2, 3, 4, 5, 6,
+            7, 8, 9, 0,
+            8, 0, 0, 0, 14, 0, 0, 0,
+            6, 0, 0, 0, 3, 0, 0, 0,
+            'v', 'w', 'x', 'y', 'z', 0,
+            'a', 'b', 'c', 'd', 0, 0,
+            10, 0,
+            0, 1, 3, 0, 1, 0, 0, 0, 3, 0, 0, 0,
+            1, 1, 3, 0, 1, 0, 0, 0, 3, 0, 0, 0,
+            2, 1, 3, 0, 1, 0, 0, 0, 8, 0, 0, 0,
+            3, 1, 3, 0, 1, 0, 0, 0, 1, 0, 0, 0,
+            17, 1, 4, 0, 2, 0, 0, 0, 18, 0, 0, 0,
+            22, 1, 3, 0, 1, 0, 0, 0, 2, 0, 0, 0,
+            23, 1, 4, 0, 2, 0, 0, 0, 26, 0, 0, 0,
+            61, 1, 3, 0, 1, 0, 0, 0, 1, 0, 0, 0,
+            64, 156, 2, 0, 6, 0, 0, 0, 34, 0, 0, 0,
+            80, 195, 2, 0, 5, 0, 0, 0, 40, 0, 0, 0,
+            0, 0, 0, 0};
+        int[] greatest = {77, 77, 0, 42, 0, 0, 0, 46,
+            1, 2, 3, 4, 5, 6,
+            7, 8, 9, 0,
+            0, 0, 0, 8, 0, 0, 0, 14,
+            0, 0, 0, 6, 0, 0, 0, 3,
+            'v', 'w', 'x', 'y', 'z', 0,
+            'a', 'b', 'c', 'd', 0, 0,
+            0, 10,
+            1, 0, 0, 3, 0, 0, 0, 1, 0, 3, 0, 0,
+            1, 1, 0, 3, 0, 0, 0, 1, 0, 3, 0, 0,
+            1, 2, 0, 3, 0, 0, 0, 1, 0, 8, 0, 0,
+            1, 3, 0, 3, 0, 0, 0, 1, 0, 1, 0, 0,
+            1, 17, 0, 4, 0, 0, 0, 2, 0, 0, 0, 18,
+            1, 22, 0, 3, 0, 0, 0, 1, 0, 2, 0, 0,
+            1, 23, 0, 4, 0, 0, 0, 2, 0, 0, 0, 26,
+            1, 61, 0, 3, 0, 0, 0, 1, 0, 1, 0, 0,
+            156, 64, 0, 2, 0, 0, 0, 6, 0, 0, 0, 34,
+            195, 80, 0, 2, 0, 0, 0, 5, 0, 0, 0, 40,
+            0, 0, 0, 0};
+        Run run = Run.start().picture(3, 3, 8, 1, 2, 3, 4, 5, 6, 7, 8, 9).text(50000, "abcd").text(40000, "vwxyz");
+        Check.due("least first", run.takes("write", x -> x.write(1, 2, 1), 164).file(), least);
+        Check.due("greatest first", run.clear(true).takes("write", x -> x.write(1, 2, 1), 164).file(), greatest);
+        Run again = run.page(1, 2, 1).takes("a second page", x -> x.write(1, 2, 1), 164);
+        Check.due("its strips", again.object().field(1, 273, 1), 172 + 6);
+        Check.due("its text", again.file(172 + 26, 172 + 32), 'v', 'w', 'x', 'y', 'z', 0);
+        Check.due("the link to it", again.file(168, 172), 210, 0, 0, 0);
     }
 
     /** "each beginning at an even place, with a byte 0 before it if it needs one". */
