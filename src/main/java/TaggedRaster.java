@@ -820,7 +820,8 @@ public final class TaggedRaster {
     private static final class Packets {
         static void encodeRow(int[] row, int from, int to, Store file) {
             int at = from;
-            while (at < to) {
+            // A packet takes a byte of the row or more: there are no more packets than bytes.
+            for (int packets = 0; packets < to - from && at < to; packets++) {
                 if (threeEqualBegin(row, at, to)) {
                     int n = equalBytes(row, at, to);
                     file.append(257 - n);
@@ -978,7 +979,8 @@ public final class TaggedRaster {
             int bit = 8 * start;
             int width = codeWidth(1);
             codeNumber = 0;
-            while (bit + width <= 8 * stop) {
+            // A code takes a bit or more: there are no more codes than bits.
+            for (int codes = 0; codes < 8 * (stop - start) && bit + width <= 8 * stop; codes++) {
                 int code = readBits(file, bit, width);
                 bit += width;
                 if (code == CODE_END) {

@@ -7,6 +7,7 @@ public final class AgainEdgesTest {
 
     public static void main(String[] args) {
         pageBehindPage();
+        loadsInTurns();
         missingPredictorIsOne();
         tableIsEmptyAtFirst();
         stripsThatFailedBefore();
@@ -37,6 +38,28 @@ public final class AgainEdgesTest {
                 Run got = behind.page(second[3], second[4], second[5]);
                 got.fileAs("a page behind another", due);
                 got.takes("load(0)", x -> x.load(0), 0).pictureAs("a page behind another", alone);
+            }
+        }
+    }
+
+    /** Promise 16, with other pages of other bytes read before on the same object. */
+    private static void loadsInTurns() {
+        for (int compression : new int[] {1, 5, 32773}) {
+            for (int rows : new int[] {1, 3}) {
+                Run ones = Run.start().then(x -> {
+                    x.begin(5, 3, 8);
+                    x.fill(0, 0, 5, 3, 255);
+                });
+                Run mixed = Run.start().washed(5, 3, 8);
+                Run none = Run.start().picture(5, 3, 8);
+                Run file = ones.page(compression, rows, 1).washed(5, 3, 8).page(compression, rows, 1)
+                        .picture(5, 3, 8).page(compression, rows, 1);
+                Run[] dues = {ones, mixed, none};
+                Run run = file;
+                for (int page : new int[] {0, 2, 1, 0, 1, 2, 0, 2, 1, 2}) {
+                    run = run.takes("load(" + page + ")", x -> x.load(page), 0);
+                    run.pictureAs("page " + page + " by " + compression, dues[page]);
+                }
             }
         }
     }
